@@ -222,12 +222,12 @@ public final class AgainstPlainSearch {
                 both.addLiteral(number, pigeon * holes + hole, true);
             }
         }
-        check64(both);
+        searchInParts(both);
         both.look();
         both.lookAtRows(0);
     }
 
-    private static void check64(AgainstPlainSearch both) {
+    private static void searchInParts(AgainstPlainSearch both) {
         both.searchFor(10);
         for (int times = 0; times < 300 && both.plain.state() == 3; times++) {
             both.searchOn(times);
