@@ -1,6 +1,9 @@
 import java.util.Random;
 
-/** Runs of chosen and of random calls, every answer compared with that of PlainSearch. */
+/**
+ * Runs of chosen and of random calls, every answer compared with that of PlainSearch. Some ask more
+ * than the 512 calls that are promised, since asking is what finds a difference.
+ */
 public final class AgainstPlainSearch {
     private static final long[] STEPS = {-5, 0, 1, 2, 3, 7, 20, 100, 5000, Long.MAX_VALUE, Long.MIN_VALUE};
 

@@ -1,8 +1,8 @@
-/** For each promise of the document: ordinary inputs, the edges it names, and wrong inputs. */
-public final class PromiseTests {
-    private static int wrong = 0;
-    private static int promise = 0;
-
+/**
+ * For each promise of the document: ordinary inputs, the edges it names, and wrong inputs. Boundary by
+ * boundary they are tried in BoundaryTests, RoomTests and RefusedCalls.
+ */
+public final class PromiseTests extends Due {
     public static void main(String[] args) {
         newObject();
         clauseComes();
@@ -28,44 +28,7 @@ public final class PromiseTests {
         usedCounts();
         stateTells();
         clausesCount();
-        System.out.println(wrong == 0 ? "all answers are as due" : wrong + " answers are not as due");
-        if (wrong != 0) {
-            System.exit(1);
-        }
-    }
-
-    private static void due(String what, long got, long due) {
-        if (got != due) {
-            wrong++;
-            System.out.println("promise " + promise + ": " + what + " answered " + got + ", due is " + due);
-        }
-    }
-
-    private static void due(String what, boolean got, boolean due) {
-        due(what, got ? 1 : 0, due ? 1 : 0);
-    }
-
-    /** A clause of literals, written as 2 times the thing, and 1 for true. */
-    private static int tell(ClauseSearch x, int... literals) {
-        int number = x.clause();
-        for (int literal : literals) {
-            due("literal " + literal + " of clause " + number, x.literal(number, literal / 2, literal % 2 == 1), true);
-        }
-        return number;
-    }
-
-    private static void dueRow(ClauseSearch x, int k, int... literals) {
-        for (int i = 0; i < literals.length; i++) {
-            due("row(" + k + ", " + i + ")", x.row(k, i), literals[i]);
-        }
-        due("row(" + k + ", " + literals.length + ")", x.row(k, literals.length), -1);
-    }
-
-    private static void dueCore(ClauseSearch x, int... literals) {
-        for (int k = 0; k < literals.length; k++) {
-            due("core(" + k + ")", x.core(k), literals[k]);
-        }
-        due("core(" + literals.length + ")", x.core(literals.length), -1);
+        end();
     }
 
     private static void newObject() {
@@ -182,37 +145,6 @@ public final class PromiseTests {
         due("run(0)", x.run(0), 3);
         due("literal 61 of a clause", x.literal(0, 60, true), false);
         due("state()", x.state(), 3);
-        x = new ClauseSearch(300);
-        int literals = fillWithBars(x, 300);
-        int came = 0;
-        for (int thing = 0; thing < 300; thing++) {
-            if (came % 60 == 0) {
-                x.clause();
-            }
-            came += x.literal(x.clauses() - 1, thing, true) ? 1 : 0;
-        }
-        due("literals in all", literals + came, 20000);
-        due("literal without room", x.literal(x.clauses() - 1, 299, false), false);
-        due("run(0)", x.run(0), 3);
-        due("literal without room", x.literal(x.clauses() - 1, 299, false), false);
-        due("state()", x.state(), 3);
-    }
-
-    /** Bars answers until there is no room: how many literals there are then. */
-    private static int fillWithBars(ClauseSearch x, int things) {
-        int bars = 0;
-        while (bars < 200 && x.run(1_000_000) == 0 && x.block()) {
-            bars++;
-        }
-        int literals = bars * things;
-        for (int k = 0; k < x.rows(); k++) {
-            int i = 0;
-            while (x.row(k, i) >= 0) {
-                i++;
-            }
-            literals += i;
-        }
-        return literals;
     }
 
     private static void kernelMakesPairs() {
@@ -306,17 +238,6 @@ public final class PromiseTests {
         due("kernel(106, 4, 0)", x.kernel(106, 4, 0), false);
         due("kernel(55, 5, 55) makes no clause", x.kernel(55, 5, 55), true);
         due("kernel(106, 5, 1) would", x.kernel(106, 5, 1), false);
-        x = new ClauseSearch(300);
-        x.kernel(0, 0, 0);
-        int literals = fillWithBars(x, 300);
-        int missing = 20000 - literals;
-        for (int n = 0; n < missing - 1; n++) {
-            if (n % 60 == 0) {
-                x.clause();
-            }
-            due("literal", x.literal(x.clauses() - 1, n, true), true);
-        }
-        due("kernel(1, 0, 1): one literal too many", x.kernel(1, 0, 1), false);
     }
 
     private static void runSearches() {
@@ -500,14 +421,7 @@ public final class PromiseTests {
 
     private static void blockFindsNoRoom() {
         promise = 8;
-        ClauseSearch x = new ClauseSearch(300);
-        fillWithBars(x, 300);
-        due("state(): there is an answer", x.state(), 0);
-        int clauses = x.clauses();
-        due("block() without room for its literals", x.block(), false);
-        due("state()", x.state(), 0);
-        due("clauses()", x.clauses(), clauses);
-        x = full();
+        ClauseSearch x = full();
         due("run(1000)", x.run(1000), 0);
         due("block() without room for a clause", x.block(), false);
         due("state()", x.state(), 0);
