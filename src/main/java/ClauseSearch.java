@@ -602,7 +602,8 @@ public final class ClauseSearch {
             }
             int pending = firstPendingAssumption();
             if (pending >= 0) {
-                return takeAssumption(pending);
+                int literal = assumptions.literals[pending];
+                return trail.holds(literal ^ 1) ? failBy(pending) : decide(literal);
             }
             int thing = trail.leastAbsent();
             return thing >= 0 ? decide(literalOf(thing, false)) : ANSWERED;
@@ -629,13 +630,9 @@ public final class ClauseSearch {
             return NONE;
         }
 
-        private int takeAssumption(int a) {
-            int literal = assumptions.literals[a];
-            if (trail.holds(literal ^ 1)) {
-                findCore(a);
-                return NO_ANSWER;
-            }
-            return decide(literal);
+        private int failBy(int assumption) {
+            findCore(assumption);
+            return NO_ANSWER;
         }
 
         private int decide(int literal) {
